@@ -770,7 +770,6 @@ public final class PoemPages {
 
     private static final class Stanza {
         int firstLine;
-        int lines;
         int firstRow;
         int rows;
     }
@@ -874,7 +873,13 @@ public final class PoemPages {
             for (int k = 0; k < poem.count; k++) {
                 Line line = poem.lineAt(k);
                 if (line != null) {
-                    breakLine(line, k, poem, width);
+                    Stanza stanza = poem.beginsStanza(k) ? addStanza(k) : lastStanza(k);
+                    LineSpan span = addSpan(line, k > stanza.firstLine);
+                    Row first = addFirstRow(line, k, span, poem, width);
+                    int others = line.steps * poem.setting(STEP) + poem.setting(RUN_OVER);
+                    putWords(line.words, first, Math.min(others, width - LEAST_ROOM), width);
+                    span.rows = rowCount - span.firstRow;
+                    stanza.rows += span.rows;
                 }
             }
         }
@@ -897,27 +902,11 @@ public final class PoemPages {
             }
         }
 
-        private void breakLine(Line line, int k, Poem poem, int width) {
-            boolean begins = poem.beginsStanza(k);
-            int ahead = lastNumber();
-            LineSpan span = addSpan();
-            span.leans = line.half && !begins;
-            span.number = span.leans ? ahead : ahead + 1;
-            span.firstRow = rowCount;
-            Stanza stanza = begins ? addStanza(k) : lastStanza(k);
-            span.stanza = stanzaCount - 1;
-
-            int greatest = width - LEAST_ROOM;
-            int base = line.steps * poem.setting(STEP);
-            int first = span.leans ? widthOf(rowCount - 1) + 1 : base;
-            int others = base + poem.setting(RUN_OVER);
-            Row row = addRow(k, Math.min(first, greatest), 0);
+        private Row addFirstRow(Line line, int k, LineSpan span, Poem poem, int width) {
+            int column = span.leans ? widthOf(rowCount - 1) + 1 : line.steps * poem.setting(STEP);
+            Row row = addRow(k, Math.min(column, width - LEAST_ROOM), 0);
             row.shown = !span.leans && span.number % SHOWN_EACH == 0 ? span.number : 0;
-            putWords(line.words, row, Math.min(others, greatest), width);
-
-            span.rows = rowCount - span.firstRow;
-            stanza.lines++;
-            stanza.rows += span.rows;
+            return row;
         }
 
         private void putWords(Words words, Row first, int column, int width) {
@@ -967,21 +956,14 @@ public final class PoemPages {
         }
 
         private void putStanza(Stanza stanza, int height) {
-            for (int k = stanza.firstLine; k < stanza.firstLine + stanza.lines; k++) {
-                LineSpan span = spanAt(k);
+            for (int i = stanza.firstRow; i < stanza.firstRow + stanza.rows; i++) {
+                Row row = rowAt(i);
+                LineSpan span = row == null ? null : spanAt(row.line);
                 if (span != null) {
-                    if (k > stanza.firstLine && height - nextPlace < span.rows) {
+                    boolean beginsLine = row.part == 0 && i > stanza.firstRow;
+                    if (beginsLine && height - nextPlace < span.rows) {
                         closePage(height);
                     }
-                    putRows(span, height);
-                }
-            }
-        }
-
-        private void putRows(LineSpan span, int height) {
-            for (int i = span.firstRow; i < span.firstRow + span.rows; i++) {
-                Row row = rowAt(i);
-                if (row != null) {
                     putRow(row, i, height);
                 }
             }
@@ -1021,14 +1003,15 @@ public final class PoemPages {
         private Row addRow(int line, int column, int from) {
             Row ahead = rowAt(rowCount - 1);
             int part = ahead != null && ahead.line == line ? ahead.part + 1 : 0;
-            Row row = rowCount >= 0 && rowCount < rows.length ? rows[rowCount] : null;
+            if (rowCount < 0 || rowCount >= rows.length) {
+                return new Row();
+            }
+            Row row = rows[rowCount];
             if (row == null) {
                 row = new Row();
-            }
-            if (rowCount >= 0 && rowCount < rows.length) {
                 rows[rowCount] = row;
-                rowCount++;
             }
+            rowCount++;
             row.line = line;
             row.part = part;
             row.column = column;
@@ -1039,29 +1022,35 @@ public final class PoemPages {
             return row;
         }
 
-        private LineSpan addSpan() {
-            LineSpan span = spanCount >= 0 && spanCount < spans.length ? spans[spanCount] : null;
+        private LineSpan addSpan(Line line, boolean behindAnother) {
+            int ahead = lastNumber();
+            if (spanCount < 0 || spanCount >= spans.length) {
+                return new LineSpan();
+            }
+            LineSpan span = spans[spanCount];
             if (span == null) {
                 span = new LineSpan();
-            }
-            if (spanCount >= 0 && spanCount < spans.length) {
                 spans[spanCount] = span;
-                spanCount++;
             }
+            spanCount++;
+            span.leans = line.half && behindAnother;
+            span.number = span.leans ? ahead : ahead + 1;
+            span.stanza = stanzaCount - 1;
+            span.firstRow = rowCount;
             return span;
         }
 
         private Stanza addStanza(int firstLine) {
-            Stanza stanza = stanzaCount >= 0 && stanzaCount < stanzas.length ? stanzas[stanzaCount] : null;
+            if (stanzaCount < 0 || stanzaCount >= stanzas.length) {
+                return new Stanza();
+            }
+            Stanza stanza = stanzas[stanzaCount];
             if (stanza == null) {
                 stanza = new Stanza();
-            }
-            if (stanzaCount >= 0 && stanzaCount < stanzas.length) {
                 stanzas[stanzaCount] = stanza;
-                stanzaCount++;
             }
+            stanzaCount++;
             stanza.firstLine = firstLine;
-            stanza.lines = 0;
             stanza.firstRow = rowCount;
             stanza.rows = 0;
             return stanza;
@@ -1073,14 +1062,15 @@ public final class PoemPages {
         }
 
         private Page addPage(int firstRow) {
-            Page page = pageCount >= 0 && pageCount < pages.length ? pages[pageCount] : null;
+            if (pageCount < 0 || pageCount >= pages.length) {
+                return new Page();
+            }
+            Page page = pages[pageCount];
             if (page == null) {
                 page = new Page();
-            }
-            if (pageCount >= 0 && pageCount < pages.length) {
                 pages[pageCount] = page;
-                pageCount++;
             }
+            pageCount++;
             page.firstRow = firstRow;
             page.rows = 0;
             page.places = 0;

@@ -209,6 +209,8 @@ public final class PromiseTest {
         shapeFault("squar", 0);
         shapeFault("  squares", 2);
         shapeFault("glas", 0);
+        shapeFault("blass", 0);
+        shapeFault("glasz", 0);
         shapeFault(" edge ", 1);
         shapeFault("Square", 0);
         shapeFault(" 1", 1);
