@@ -989,7 +989,10 @@ public final class PoemPages {
         }
 
         private boolean beginsWithStanza(Page page) {
-            Row row = page == null ? null : rowAt(page.firstRow);
+            if (page == null) {
+                return false;
+            }
+            Row row = rowAt(page.firstRow);
             LineSpan span = row == null ? null : spanAt(row.line);
             Stanza stanza = span == null ? null : stanzaAt(span.stanza);
             return stanza != null && stanza.firstRow == page.firstRow;
