@@ -1,5 +1,6 @@
 import java.util.ArrayDeque;
 import java.util.ArrayList;
+import java.util.Arrays;
 import java.util.List;
 import java.util.regex.Matcher;
 import java.util.regex.Pattern;
@@ -18,6 +19,8 @@ public final class ModelTest {
             seed = 7919L * run + 1;
             run(run);
         }
+        allShortTexts("");
+        allSettings();
         System.out.println(wrong == 0 ? "the model agrees in " + RUNS + " runs" : wrong + " answers differ");
         if (wrong != 0) {
             System.exit(1);
@@ -36,6 +39,67 @@ public final class ModelTest {
                 wrong++;
                 System.out.println("run " + run + ", call " + call + ", due is " + answers[1] + ":\n" + told);
                 return;
+            }
+        }
+    }
+
+    private static void equal(String what, long got, long due) {
+        if (got != due) {
+            wrong++;
+            System.out.println(what + " answered " + got + ", due is " + due);
+        }
+    }
+
+    /** All texts of up to five bytes, of the signs, a blank, a letter, and a byte that can stand nowhere. */
+    private static void allShortTexts(String text) {
+        PoemPages x = new PoemPages();
+        Model m = new Model();
+        text(x, m, text);
+        equal("fault(false) of \"" + text + "\"", x.fault(false), m.fault(false));
+        equal("fault(true) of \"" + text + "\"", x.fault(true), m.fault(true));
+        equal("insert(0) of \"" + text + "\"", x.insert(0), m.insert(0));
+        equal("digest() behind \"" + text + "\"", x.digest(), m.digest());
+        for (int i = 0; text.length() < 5 && i < 6; i++) {
+            allShortTexts(text + "~> a/?".charAt(i));
+        }
+    }
+
+    /** Poems with each width, step and run-over, and then with each height and keep. */
+    private static void allSettings() {
+        String[][] poems = {
+            {"a", "~ bcdefghijklmnop q r", ">> st uvw xyzabcdefghij /", "~>>>>> klmnopqrstuvwxyz abcdef", "~ gh /", "> ij", "k"},
+            {"ab cd", "ef /", "gh /", "ij", "~> kl", "mn", "op /", "qrstuvwxyzabcdef ghijklmnopqrstuv wxyz", "ab", "cd /", "~ ef", "~ gh"}};
+        for (String[] poem : poems) {
+            for (int step = 0; step <= 6; step++) {
+                for (int runOver = 0; runOver <= 8; runOver++) {
+                    allOf(poem, new int[] {-1, 8, step, runOver, 4});
+                }
+            }
+            for (int keep = 0; keep <= 30; keep++) {
+                allOf(poem, new int[] {12, -1, 1, 2, keep});
+            }
+        }
+    }
+
+    /** Every value of the one setting that is -1. */
+    private static void allOf(String[] poem, int[] settings) {
+        PoemPages x = new PoemPages();
+        Model m = new Model();
+        for (int k = 0; k < poem.length; k++) {
+            text(x, m, poem[k]);
+            equal("insert", x.insert(k), m.insert(k));
+        }
+        for (int what = 0; what < settings.length; what++) {
+            int from = settings[what] < 0 ? Model.LEAST[what] : settings[what];
+            int to = settings[what] < 0 ? Model.GREATEST[what] : settings[what];
+            if (from == to) {
+                equal("set", x.set(what, from), m.set(what, from));
+            }
+        }
+        for (int what = 0; what < settings.length; what++) {
+            for (int value = Model.LEAST[what]; settings[what] < 0 && value <= Model.GREATEST[what]; value++) {
+                equal("set", x.set(what, value), m.set(what, value));
+                equal("digest() with " + value + " in " + Arrays.toString(settings), x.digest(), m.digest());
             }
         }
     }
