@@ -4,7 +4,9 @@ import java.lang.reflect.Method;
 import java.lang.reflect.Modifier;
 import java.nio.file.Files;
 import java.nio.file.Path;
+import java.util.ArrayList;
 import java.util.Arrays;
+import java.util.List;
 import java.util.TreeSet;
 import java.util.regex.Matcher;
 import java.util.regex.Pattern;
@@ -20,10 +22,14 @@ public final class RulesTest {
         "\\b(throw|throws|try|catch|synchronized|assert|import|package|volatile|native|transient|strictfp)\\b",
         "->", "::", "\\bSystem\\.(?!arraycopy)", "\\bObject\\b", "\\bRandom\\b", "\\bThread\\b", "\\w+Exact\\b",
         "\\b(equals|hashCode|toString)\\s*\\(\\s*\\)\\s*\\{", "\"\\s*\\+|\\+\\s*\"", "[^\\x00-\\x7f]"};
+    private static final List<Class<?>> STATIC_TYPES = List.of(int.class, long.class, boolean.class, char.class, String.class,
+        int[].class, long[].class, char[].class, byte[].class);
+    private static final int MOST_CLASSES = 12, MOST_FIELDS = 20, MOST_PARAMETERS = 7;
     private static int wrong = 0;
 
     public static void main(String[] args) throws IOException {
         face();
+        sizes();
         source();
         System.out.println(wrong == 0 ? "the rules are kept" : wrong + " rules are broken");
         if (wrong != 0) {
@@ -81,6 +87,35 @@ public final class RulesTest {
         }
         if (PoemPages.class.getConstructors().length != 1 || PoemPages.class.getDeclaredConstructors().length != 1) {
             broken("there must be one constructor, a public one");
+        }
+    }
+
+    private static void sizes() {
+        List<Class<?>> all = new ArrayList<>(Arrays.asList(PoemPages.class.getDeclaredClasses()));
+        all.add(PoemPages.class);
+        if (all.size() > MOST_CLASSES) {
+            broken("there are " + all.size() + " classes");
+        }
+        for (Class<?> each : all) {
+            if (each != PoemPages.class && each.getDeclaredClasses().length > 0) {
+                broken("there are classes inside " + each);
+            }
+            int fields = 0;
+            for (Field f : each.getDeclaredFields()) {
+                if (!Modifier.isStatic(f.getModifiers())) {
+                    fields++;
+                } else if (!Modifier.isFinal(f.getModifiers()) || !STATIC_TYPES.contains(f.getType())) {
+                    broken("the static field " + f + " is not final, or of another type");
+                }
+            }
+            if (fields > MOST_FIELDS) {
+                broken(each + " has " + fields + " fields");
+            }
+            for (Method m : each.getDeclaredMethods()) {
+                if (m.getParameterCount() > MOST_PARAMETERS) {
+                    broken(m + " has too many parameters");
+                }
+            }
         }
     }
 
